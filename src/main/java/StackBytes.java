@@ -721,15 +721,10 @@ public final class StackBytes {
                     take(ANY);
                     break;
                 case DUP:
-                    int top = take(ANY);
-                    put(top);
-                    put(top);
+                    repeatTop();
                     break;
                 case SWAP:
-                    int upper = take(ANY);
-                    int lower = take(ANY);
-                    put(upper);
-                    put(lower);
+                    swapUpperTwo();
                     break;
                 case LOAD:
                     put(function.typeOfLocal(behind));
@@ -770,6 +765,19 @@ public final class StackBytes {
                     put(INT);
                     break;
             }
+        }
+
+        private void repeatTop() {
+            int top = take(ANY);
+            put(top);
+            put(top);
+        }
+
+        private void swapUpperTwo() {
+            int upper = take(ANY);
+            int lower = take(ANY);
+            put(upper);
+            put(lower);
         }
 
         private void useRow(int op) {

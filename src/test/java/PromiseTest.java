@@ -1,3 +1,5 @@
+import java.util.Arrays;
+
 /** The promises one by one: ordinary inputs, the edges that the document names, wrong inputs. */
 public final class PromiseTest {
     private static final int NONE = StackBytes.NONE;
@@ -12,6 +14,8 @@ public final class PromiseTest {
         readTypes();
         readStackLimit();
         readFlow();
+        readShorter();
+        readBehindFault();
         readHandlerFlow();
         readCalls();
         readKeepsProgram();
@@ -104,6 +108,9 @@ public final class PromiseTest {
         Check.due("4: below 0", x.poke(-1, 1), false);
         Check.due("4: behind", x.poke(3, 1), false);
         Check.due("4: far behind", x.poke(Integer.MAX_VALUE, 1), false);
+        Check.due("4: the first", x.poke(0, 17), true);
+        Check.due("4: the first is another", x.byteAt(0, true), 17);
+        Check.due("4: back", x.poke(0, 1), true);
         Check.due("4: lowest eight bits", x.poke(1, 0x1234), true);
         Check.due("4: so it is", x.byteAt(1, true), 0x34);
         Check.due("4: of -1", x.poke(2, -1), true);
@@ -133,7 +140,7 @@ public final class PromiseTest {
     }
 
     private static byte[] first(byte[] bytes, int n) {
-        return java.util.Arrays.copyOf(bytes, n);
+        return Arrays.copyOf(bytes, n);
     }
 
     /** All kinds of numbers; FUNCTION 1 begins at 27. */
@@ -171,9 +178,9 @@ public final class PromiseTest {
             expect("another start at " + k, with(simple, k, 9), 2, k);
             expect("another start, and cut, at " + k, first(with(simple, k, 9), k + 1), 2, k);
         }
-        expect("one left", java.util.Arrays.copyOf(simple, simple.length + 1), 4, simple.length);
-        expect("three left", java.util.Arrays.copyOf(simple, simple.length + 3), 4, simple.length);
-        expect("left, before it is verified", java.util.Arrays.copyOf(with(simple, 11, 1), simple.length + 1), 4, 13);
+        expect("one left", Arrays.copyOf(simple, simple.length + 1), 4, simple.length);
+        expect("three left", Arrays.copyOf(simple, simple.length + 3), 4, simple.length);
+        expect("left, before it is verified", Arrays.copyOf(with(simple, 11, 1), simple.length + 1), 4, 13);
         int[][] wrong = {{3, 0, 3}, {3, 13, 3}, {4, 1, 4}, {5, 13, 5}, {6, 1, 6}, {7, 4, 6}, {8, 2, 8}, {8, 255, 8},
             {9, 2, 9}, {11, 30, 11}, {11, 255, 11}, {16, 30, 16}, {18, 3, 17}, {17, 1, 17}, {20, 7, 20},
             {28, 5, 28}, {29, 0, 29}, {29, 13, 29}, {31, 4, 30}, {32, 3, 32}, {36, 2, 36}, {38, 2, 38}, {40, 2, 40},
@@ -188,7 +195,7 @@ public final class PromiseTest {
             longest[k] = 29;
         }
         longest[798] = 27;
-        expect("400 instructions", ProgramBytes.oneFunction(0, 0, 0, 400, java.util.Arrays.copyOf(longest, 799)), 0, NONE);
+        expect("400 instructions", ProgramBytes.oneFunction(0, 0, 0, 400, Arrays.copyOf(longest, 799)), 0, NONE);
         expect("12 locals", ProgramBytes.oneFunction(12, 0xfff, 0, 1, 27), 0, NONE);
         expect("a row above 12 locals", ProgramBytes.oneFunction(12, 0x1000, 0, 1, 27), 3, 6);
         expect("a half number at the end", first(with(simple, 9, 255), 10), 1, 10);
@@ -342,7 +349,29 @@ public final class PromiseTest {
         expect(x, "never come to", ProgramBytes.oneFunction(0, 0, 0, 3, 18, 0, 2, 6, 27), 0, NONE);
         Check.due("9: never come to", x.code(0, 1, 2), NONE);
         Check.due("9: no rows there", x.code(0, 1, 3), 0);
+        Check.due("9: gone to from the first", x.code(0, 2, 4), 1);
         Check.due("10: come to", x.function(0, 6), 2);
+    }
+
+    /** What was held for a longer program must not be seen in a shorter one behind it. */
+    private static void readShorter() {
+        StackBytes x = new StackBytes();
+        byte[] deepAndBack = ProgramBytes.oneFunction(0, 0, 0, 4, 29, 0, 26, 0, 19, 0, 0, 27);
+        byte[] brief = ProgramBytes.oneFunction(0, 0, 0, 2, 29, 0, 27);
+        for (byte[] bytes : new byte[][] {deepAndBack, deepAndBack, brief}) {
+            expect(x, "longer, then shorter", bytes, 0, NONE);
+        }
+        Check.due("9: no jump from behind the end", x.code(0, 0, 4), 0);
+        Check.due("10: none deeper behind the end", x.function(0, 7), 0);
+        Check.due("10: none come to behind the end", x.function(0, 6), 2);
+    }
+
+    /** What waited when a fault was found waits no more in what is verified next. */
+    private static void readBehindFault() {
+        StackBytes x = new StackBytes();
+        expect(x, "3 is left waiting", ProgramBytes.oneFunction(0, 0, 0, 4, 26, 0, 19, 0, 3, 1, 27), 5, 2);
+        expect(x, "3 is never come to", ProgramBytes.oneFunction(0, 0, 0, 4, 29, 0, 29, 0, 27, 6), 0, NONE);
+        Check.due("10: three come to", x.function(0, 6), 3);
     }
 
     /** 5 is come to with a ROW and with an INT. */
@@ -376,6 +405,8 @@ public final class PromiseTest {
             .op(29, 0).op(27).op(6).handlers(1).handlerForAny(1, 2, 2).bytes(), 5, 2);
         expect("to is not in the range", new ProgramBytes(1).head(0, 0, 0, 0, 3)
             .op(29, 0).op(27).op(6).handlers(1).handlerForAny(2, 3, 2).bytes(), 0, NONE);
+        expect("to is not in the range, though it is come to", new ProgramBytes(1).head(0, 0, 0, 0, 4)
+            .op(18, 2).op(27).op(27).op(6).handlers(1).handlerForAny(1, 2, 3).bytes(), 0, NONE);
         // The first of the two is told: its target has one INT already, from the handler that stands before it.
         expect("handlers in their order", new ProgramBytes(1).head(0, 1, 1, 0, 4)
             .op(4, 0).op(18, 3).op(27).op(27).handlers(2).handlerFor(1, 2, 2, 4).handlerFor(1, 2, 1, 5).bytes(), 7, 1);
@@ -435,7 +466,7 @@ public final class PromiseTest {
             }
         }
         all.append(x.look(0)).append(' ').append(x.look(1));
-        return java.util.Arrays.stream(all.toString().split(" ")).mapToInt(Integer::parseInt).toArray();
+        return Arrays.stream(all.toString().split(" ")).mapToInt(Integer::parseInt).toArray();
     }
 
     private static void same(String what, int[] got, int[] want) {
@@ -488,12 +519,29 @@ public final class PromiseTest {
         Check.due("7: a fault", x.read(), 4);
         x.turnOver();
         Check.due("7: fewer then", x.read(), 0);
+        moreThanBefore();
         tooLong();
+        longest();
     }
 
-    /** More than 4096 need more calls than are promised, but must not break it. */
-    private static void tooLong() {
+    private static void moreThanBefore() {
         StackBytes x = new StackBytes();
+        int[] codes = new int[40];
+        Arrays.fill(codes, ProgramBytes.POP);
+        codes[0] = ProgramBytes.RETURN;
+        ProgramBytes.load(x, ProgramBytes.oneFunction(0, 0, 0, 40, codes));
+        Check.due("7: short", x.read(), 0);
+        for (int i = 1; i < 40; i++) {
+            x.change(0, i, ProgramBytes.PUSH, i);
+        }
+        Check.due("7: long", x.write(), 12 + 40 + 39 * 4);
+        Check.due("7: turned over", x.turnOver(), true);
+        Check.due("7: all of them", x.look(2), 12 + 40 + 39 * 4);
+        Check.due("7: the last push", x.byteAt(12 + 40 + 39 * 4 - 2, true), 39);
+        Check.due("7: read again", x.read(), 0);
+    }
+
+    private static byte[] fourThousand() {
         ProgramBytes made = new ProgramBytes(10);
         for (int f = 0; f < 10; f++) {
             made.head(0, 0, 0, 0, 400).op(ProgramBytes.RETURN);
@@ -502,7 +550,28 @@ public final class PromiseTest {
             }
             made.handlers(0);
         }
-        ProgramBytes.load(x, made.bytes());
+        return made.bytes();
+    }
+
+    private static void longest() {
+        StackBytes x = new StackBytes();
+        ProgramBytes.load(x, fourThousand());
+        x.read();
+        for (int i = 1; i <= 3; i++) {
+            x.change(0, i, ProgramBytes.PUSH, 1);
+        }
+        Check.due("7: 4096 bytes", x.write(), 4096);
+        Check.due("7: are not too many", x.turnOver(), true);
+        Check.due("7: 4096 BYTES", x.look(2), 4096);
+        x.change(0, 4, ProgramBytes.GUARD, 0);
+        Check.due("7: 4097 bytes", x.write(), 4097);
+        Check.due("7: are too many", x.turnOver(), false);
+    }
+
+    /** More than 4096 need more calls than are promised, but must not break it. */
+    private static void tooLong() {
+        StackBytes x = new StackBytes();
+        ProgramBytes.load(x, fourThousand());
         Check.due("7: four thousand instructions", x.read(), 0);
         Check.due("7: so many bytes", x.write(), 4084);
         for (int f = 0; f < 10; f++) {
@@ -562,6 +631,17 @@ public final class PromiseTest {
         expectChange(y, 0, 1, ProgramBytes.GUARD, 0, 0, NONE);
         Check.due("8: up to the throw", y.function(0, 6), 6);
         stackFull();
+        rowsGone();
+    }
+
+    private static void rowsGone() {
+        StackBytes x = new StackBytes();
+        ProgramBytes.load(x, behindStack("rr", 29, 0));
+        x.read();
+        Check.due("9: rows", x.code(0, 2, 3), 3);
+        expectChange(x, 0, 0, ProgramBytes.JUMP, 3, 0, NONE);
+        Check.due("9: no rows where it is never come to", x.code(0, 2, 3), 0);
+        Check.due("9: nor on the way", x.code(0, 3, 3), 0);
     }
 
     private static void stackFull() {
