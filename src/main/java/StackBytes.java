@@ -632,36 +632,33 @@ public final class StackBytes {
             program = newProgram;
             function = found;
             firstPlace = f * FUNCTION_STEP;
-            lookAtAll();
+            begin();
+            // Each one waits at most once, so that as many turns as there are INSTRUCTIONS are enough.
+            for (int turn = 0; turn < function.count && findLeastWaiting(); turn++) {
+                lookAt(leastWaiting);
+            }
             if (fault.kind == 0) {
                 System.arraycopy(depths, 0, function.depths, 0, function.count);
                 System.arraycopy(rowsOnStack, 0, function.rowsOnStack, 0, function.count);
             }
         }
 
-        private void lookAtAll() {
-            int count = function.count;
-            for (int i = 0; i < count; i++) {
+        private void begin() {
+            for (int i = 0; i < function.count; i++) {
                 depths[i] = NONE;
                 rowsOnStack[i] = 0;
                 waits[i] = false;
             }
             leastWaiting = 0;
             comeTo(0, 0, 0);
-            // Each one waits at most once, so that as many turns as there are INSTRUCTIONS are enough.
-            for (int turn = 0; turn < count && fault.kind == 0; turn++) {
-                findLeastWaiting();
-                if (leastWaiting == count) {
-                    return;
-                }
-                lookAt(leastWaiting);
-            }
         }
 
-        private void findLeastWaiting() {
+        /** False if none waits, or if there is a fault: then none is looked at any more. */
+        private boolean findLeastWaiting() {
             while (leastWaiting < function.count && !waits[leastWaiting]) {
                 leastWaiting++;
             }
+            return leastWaiting < function.count && fault.kind == 0;
         }
 
         private void lookAt(int i) {
@@ -786,7 +783,12 @@ public final class StackBytes {
                 put(ROW);
                 return;
             }
-            takeInts(op == PUT ? 2 : op == GET ? 1 : 0);
+            if (op != SIZE) {
+                take(INT);
+            }
+            if (op == PUT) {
+                take(INT);
+            }
             take(ROW);
             if (op != PUT) {
                 put(INT);

@@ -29,6 +29,11 @@ final class ProgramBytes {
         return one(params).one(locals).two(rows).one(result).two(instructions);
     }
 
+    static boolean hasBehind(int op) {
+        return op == PUSH || op == LOAD || op == STORE || op >= JUMP && op <= IFNOT || op == CALL || op == HOST
+            || op == GUARD;
+    }
+
     ProgramBytes op(int op) {
         return one(op);
     }
