@@ -7,6 +7,8 @@ public final class AskEdgeTest {
         codeOfEach();
         codeNeverComeTo();
         codeGoesThere();
+        codeOfOnlyOne();
+        nothingOfALongerOne();
         codeOfNone();
         codeOfNoSuchWhat();
         functionOfEach();
@@ -86,6 +88,30 @@ public final class AskEdgeTest {
         }
         StackBytes x = two();
         Check.due(s + "not in another FUNCTION", x.code(1, 1, 4), 0);
+    }
+
+    private static void codeOfOnlyOne() {
+        StackBytes x = new StackBytes();
+        Check.due("9: no jump goes to it", x.code(0, 0, 4), 0);
+        x.change(0, 0, ProgramBytes.JUMP, 0);
+        Check.due("9: 1 if a jump goes to it: from itself", x.code(0, 0, 4), 1);
+        StackBytes y = Edge.right("9", Edge.behindStack("", 2, ProgramBytes.JUMP, 0, 1, ProgramBytes.RETURN));
+        Check.due("9: 1 if a jump goes to it: from INSTRUCTION 0", y.code(0, 1, 4), 1);
+        Check.due("9: else 0", y.code(0, 0, 4), 0);
+    }
+
+    /** Jumps, depths and HANDLERS of a longer PROGRAM, read before, are not seen in a shorter one. */
+    private static void nothingOfALongerOne() {
+        byte[] longer = new ProgramBytes(1).head(0, 0, 0, 0, 4).op(ProgramBytes.GUARD, 0).op(ProgramBytes.HOST, 0)
+            .op(ProgramBytes.IF, 0).op(ProgramBytes.RETURN).handlers(1).handlerForAny(3, 4, 2).bytes();
+        StackBytes x = Edge.right("longer", longer);
+        Edge.readAgain(x, "longer, again", longer, 0, NONE);
+        Edge.readAgain(x, "shorter", ProgramBytes.oneFunction(0, 0, 0, 2, 29, 0, 27), 0, NONE);
+        Check.due("9: no jump from behind the end", x.code(0, 0, 4), 0);
+        Check.due("9: no HANDLER of before", x.code(0, 1, 4), 0);
+        Check.due("10: the two are come to", x.function(0, 6), 2);
+        Check.due("10: nothing is on the STACK", x.function(0, 7), 0);
+        Check.due("13: INSTRUCTIONS in all", x.look(1), 2);
     }
 
     private static void codeOfNone() {

@@ -1,3 +1,5 @@
+import java.util.Arrays;
+
 /** Sentences of promises 1, 2, 3, 4, 6, 7 and 12 that name an edge: the BYTES and the WRITTEN ones. */
 public final class BytesEdgeTest {
     private static final int NONE = Edge.NONE;
@@ -17,6 +19,7 @@ public final class BytesEdgeTest {
         writtenAreReplaced();
         turnOverOfNone();
         turnOverReplaces();
+        turnOverOfMore();
         turnOverUpTo4096();
         byteAtEdges();
         Check.end();
@@ -216,6 +219,23 @@ public final class BytesEdgeTest {
             x.poke(0, 1);
             Check.due("7: they are not the same ones", x.byteAt(0, false), 71);
         }
+    }
+
+    /** More are WRITTEN than there have ever been BYTES. */
+    private static void turnOverOfMore() {
+        int[] ops = new int[100];
+        Arrays.fill(ops, ProgramBytes.RETURN);
+        StackBytes x = Edge.right("7", ProgramBytes.oneFunction(0, 0, 0, 100, ops));
+        for (int i = 1; i < 100; i++) {
+            x.change(0, i, ProgramBytes.PUSH, i);
+        }
+        Check.due("7: five times as many", x.write(), 13 + 5 * 99);
+        Check.due("7: true", x.turnOver(), true);
+        Check.due("7: so many BYTES", x.look(2), 13 + 5 * 99);
+        for (int i = 1; i < 100; i++) {
+            Check.due("7: BYTE of PUSH " + i, x.byteAt(11 + 5 * i, true), i);
+        }
+        Check.due("7: read again", x.read(), 0);
     }
 
     /** No 512 calls lead to more than 4096; the limit is to hold all the same. */

@@ -107,7 +107,8 @@ public final class ChangeEdgeTest {
     private static void localsBehind() {
         behind("3: a LOCAL", 1, 2, ProgramBytes.LOAD, 3);
         behind("3: a LOCAL", 1, 2, ProgramBytes.STORE, 3);
-        noneSuch("3: there are no LOCALS", new int[] {0, 0, ProgramBytes.LOAD, 0}, new int[] {0, 1, ProgramBytes.STORE, 0});
+        noneSuch("3: there are no LOCALS", new int[] {0, 0, ProgramBytes.LOAD, 0},
+            new int[] {0, 1, ProgramBytes.STORE, 0});
     }
 
     private static void placesBehind() {

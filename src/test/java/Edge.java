@@ -54,7 +54,7 @@ final class Edge {
         return with(Arrays.copyOf(bytes, bytes.length + others.length), bytes.length, others);
     }
 
-    /** One FUNCTION with an INT (LOCAL 0) and a ROW (LOCAL 1): puts these types ('I', 'R'), and then has these bytes. */
+    /** One FUNCTION with an INT (LOCAL 0) and a ROW (LOCAL 1): puts these types ('I', 'R'), then has these bytes. */
     static byte[] behindStack(String types, int instructions, int... others) {
         ProgramBytes made = new ProgramBytes(1).head(0, 2, 2, 0, types.length() + instructions);
         for (int k = 0; k < types.length(); k++) {

@@ -119,7 +119,8 @@ public final class OracleTest {
         int i = index(Math.max(1, count) + random.nextInt(2));
         int op = index(31);
         boolean plain = op > 5 && op < 18 || op > 0 && op < 4 || op > 20 && op < 25 || op == 27 || op == 28;
-        int behind = plain && random.nextInt(10) != 0 ? 0 : index(op == 18 || op == 19 || op == 20 ? Math.max(2, count) : 6);
+        boolean jumps = op == 18 || op == 19 || op == 20;
+        int behind = plain && random.nextInt(10) != 0 ? 0 : index(jumps ? Math.max(2, count) : 6);
         String call = "change " + f + " " + i + " " + op + " " + behind;
         int got = x.change(f, i, op, behind);
         int want = due.change(f, i, op, behind);
@@ -236,7 +237,8 @@ public final class OracleTest {
                 String popped = stack.endsWith("I") ? stack.substring(0, stack.length() - 1) : "none";
                 behind = stacks.indexOf(popped);
             }
-            String next = behind < 0 || head[1] == 0 && (op == 4 || op == 5) ? null : next(op, behind, head, heads, stack);
+            boolean none = behind < 0 || head[1] == 0 && (op == 4 || op == 5);
+            String next = none ? null : next(op, behind, head, heads, stack);
             if (next != null && (next.length() <= 16 || random.nextInt(200) == 0)) {
                 codes.add(new int[] {op, behind});
                 return next;

@@ -666,8 +666,7 @@ public final class PromiseTest {
             expectChange(x, row[0], row[1], row[2], row[3], 3, NONE);
         }
         for (int op = 0; op < 30; op++) {
-            boolean hasBehind = op == 0 || op == 4 || op == 5 || op >= 18 && op <= 20 || op == 25 || op == 26 || op == 29;
-            if (!hasBehind) {
+            if (!ProgramBytes.hasBehind(op)) {
                 expectChange(x, 0, 2, op, 1, 3, NONE);
                 expectChange(x, 0, 2, op, -1, 3, NONE);
             }

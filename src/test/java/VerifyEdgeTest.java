@@ -8,7 +8,7 @@ public final class VerifyEdgeTest {
     private static final String SIXTEEN = "IIIIIIIIIIIIIIII";
     private static final String FIFTEEN = "IIIIIIIIIIIIIII";
 
-    /** Of each INSTRUCTION: itself, what stands behind, what it takes (the top last) and what it puts; '?' is either. */
+    /** Of each INSTRUCTION: itself, what stands behind, what it takes (the top last), what it puts; '?' is either. */
     private static final String[] KINDS = {
         "0 9  I", "1 - ? ", "4 0  I", "4 1  R", "5 0 I ", "5 1 R ", "6 - II I", "7 - II I", "8 - II I", "9 - II I",
         "10 - II I", "11 - II I", "12 - II I", "13 - II I", "14 - II I", "15 - II I", "16 - II I", "17 - II I",
@@ -27,6 +27,7 @@ public final class VerifyEdgeTest {
                 takesAndPuts(parts, stack);
             }
         }
+        rowsWithResult();
         dupAndSwap(stacks);
         conditions(stacks);
         returns(stacks);
@@ -41,6 +42,7 @@ public final class VerifyEdgeTest {
         sameTypes();
         theLeastNumber();
         waitsNoMore();
+        waitedBefore();
         rangeOfHandlers();
         targetsWithOneInt();
         orderOfHandlers();
@@ -100,6 +102,22 @@ public final class VerifyEdgeTest {
         } else {
             Edge.read(sentence, bytes, 5, stack.length());
         }
+    }
+
+    /** The RESULT of FUNCTION 0 has to do with RETURN and CALL alone. */
+    private static void rowsWithResult() {
+        StackBytes x = Edge.right("with a RESULT", new ProgramBytes(1).head(0, 1, 1, 1, 10)
+            .op(ProgramBytes.HOST, 0).op(ProgramBytes.NEW).op(ProgramBytes.HOST, 0).op(ProgramBytes.HOST, 0)
+            .op(ProgramBytes.PUT).op(ProgramBytes.LOAD, 0).op(ProgramBytes.SIZE).op(ProgramBytes.LOAD, 0)
+            .op(ProgramBytes.SIZE).op(ProgramBytes.RETURN).handlers(0).bytes());
+        int[] depths = {0, 1, 1, 2, 3, 0, 1, 1, 2, 2};
+        for (int i = 0; i < depths.length; i++) {
+            Check.due("with a RESULT, INSTRUCTION " + i, x.code(0, i, 2), depths[i]);
+        }
+        StackBytes y = Edge.right("GET with a RESULT", new ProgramBytes(1).head(0, 1, 1, 1, 4)
+            .op(ProgramBytes.LOAD, 0).op(ProgramBytes.HOST, 0).op(ProgramBytes.GET).op(ProgramBytes.RETURN)
+            .handlers(0).bytes());
+        left("GET with a RESULT", y, 3, "I");
     }
 
     private static void dupAndSwap(List<String> stacks) {
@@ -205,8 +223,9 @@ public final class VerifyEdgeTest {
 
     private static void sixteen() {
         String s = "Fault 6: there would be more than 16 on the STACK: op ";
-        int[][] growing = {{ProgramBytes.PUSH, 1}, {ProgramBytes.DUP, 0}, {ProgramBytes.LOAD, 0}, {ProgramBytes.LOAD, 1},
-            {ProgramBytes.HOST, 0}, {ProgramBytes.HOST, 4}, {ProgramBytes.HOST, 8}, {ProgramBytes.HOST, 12}};
+        int[][] growing = {{ProgramBytes.PUSH, 1}, {ProgramBytes.DUP, 0}, {ProgramBytes.LOAD, 0},
+            {ProgramBytes.LOAD, 1}, {ProgramBytes.HOST, 0}, {ProgramBytes.HOST, 4}, {ProgramBytes.HOST, 8},
+            {ProgramBytes.HOST, 12}};
         for (int[] one : growing) {
             byte[] to16 = Edge.behindStack(FIFTEEN, 2, bytesOf(one[0], one[1]));
             byte[] to17 = Edge.behindStack(SIXTEEN, 2, bytesOf(one[0], one[1]));
@@ -305,7 +324,8 @@ public final class VerifyEdgeTest {
             Edge.read(s + pair[0] + " and " + pair[1], twoWays(pair[0], pair[1]), 7,
                 3 + pair[0].length() + pair[1].length());
         }
-        Edge.read(s + "INSTRUCTION 0, which waits with nothing", Edge.behindStack("I", 1, ProgramBytes.JUMP, 0, 0), 7, 0);
+        Edge.read(s + "INSTRUCTION 0, which waits with nothing",
+            Edge.behindStack("I", 1, ProgramBytes.JUMP, 0, 0), 7, 0);
         Edge.read(s + "itself", Edge.behindStack("II", 2, ProgramBytes.IF, 0, 2, ProgramBytes.RETURN), 7, 2);
         Edge.read(s + "t, and then the one behind with others",
             Edge.behindStack("III", 2, ProgramBytes.IF, 0, 1, ProgramBytes.RETURN), 7, 1);
@@ -354,7 +374,18 @@ public final class VerifyEdgeTest {
         for (int i = 2; i < 400; i++) {
             made.op(ProgramBytes.JUMP, i - 1);
         }
-        Check.due("all 400 are come to", Edge.right("as long as one waits", made.handlers(0).bytes()).function(0, 6), 400);
+        StackBytes y = Edge.right("as long as one waits", made.handlers(0).bytes());
+        Check.due("all 400 are come to", y.function(0, 6), 400);
+    }
+
+    /** What waited when a fault was found does not wait in what is VERIFIED next. */
+    private static void waitedBefore() {
+        StackBytes x = Edge.read("3 waits still", Edge.behindStack("I", 4,
+            ProgramBytes.IF, 0, 3, ProgramBytes.POP, ProgramBytes.RETURN, ProgramBytes.RETURN), 5, 2);
+        Edge.readAgain(x, "3 is never come to", Edge.behindStack("I", 3,
+            ProgramBytes.POP, ProgramBytes.RETURN, ProgramBytes.ADD), 0, NONE);
+        Check.due("three are come to", x.function(0, 6), 3);
+        Check.due("3 is not", x.code(0, 3, 2), NONE);
     }
 
     /** GUARDS, a RETURN at 5, POP at 6 and RETURN at 7; a HANDLER goes from its range to 6. */
@@ -397,7 +428,8 @@ public final class VerifyEdgeTest {
     private static void targetsWithOneInt() {
         String s = "TARGET is come to with one INT: ";
         for (int op : new int[] {ProgramBytes.JUMP, ProgramBytes.RETURN, ProgramBytes.THROW}) {
-            ProgramBytes made = new ProgramBytes(1).head(0, 2, 2, 0, 6).op(ProgramBytes.LOAD, 1).op(ProgramBytes.LOAD, 0);
+            ProgramBytes made = new ProgramBytes(1).head(0, 2, 2, 0, 6)
+                .op(ProgramBytes.LOAD, 1).op(ProgramBytes.LOAD, 0);
             if (op == ProgramBytes.JUMP) {
                 made.op(op, 3);
             } else {
@@ -416,7 +448,8 @@ public final class VerifyEdgeTest {
             .handlers(1).handlerForAny(0, 1, 0).bytes(), 7, 0);
         Edge.right(s + "it is in its own range", new ProgramBytes(1).head(0, 0, 0, 0, 2).op(ProgramBytes.RETURN)
             .op(ProgramBytes.RETURN).handlers(1).handlerForAny(0, 2, 1).bytes());
-        Edge.read(s + "the one ahead comes to it with nothing", guards().handlers(1).handlerForAny(0, 8, 5).bytes(), 7, 5);
+        Edge.read(s + "the one ahead comes to it with nothing",
+            guards().handlers(1).handlerForAny(0, 8, 5).bytes(), 7, 5);
     }
 
     private static void orderOfHandlers() {
