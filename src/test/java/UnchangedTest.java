@@ -17,6 +17,7 @@ public final class UnchangedTest {
         fillSilent();
         fillFaulty();
         Edge.right("many", many());
+        anotherObject();
         for (Consumer<StackBytes> start : starts()) {
             List<Integer> before = Edge.state(start);
             for (Map.Entry<String, Consumer<StackBytes>> call : SILENT.entrySet()) {
@@ -47,6 +48,24 @@ public final class UnchangedTest {
         call.accept(x);
         Check.due(name + " says no fault", x.look(4), fault);
         Check.due(name + " says no place", x.look(5), place);
+    }
+
+    /** What is called on one object changes nothing of another one. */
+    private static void anotherObject() {
+        StackBytes other = new StackBytes();
+        for (Consumer<StackBytes> start : starts()) {
+            List<Integer> alone = Edge.state(start);
+            List<Integer> between = Edge.state(x -> {
+                start.accept(x);
+                starts().forEach(more -> more.accept(new StackBytes()));
+            });
+            Check.due("calls on others change nothing", between.equals(alone), true);
+            start.accept(new StackBytes());
+        }
+        Check.due("it is as a new one: FUNCTIONS", other.look(0), 1);
+        Check.due("it is as a new one: BYTES", other.look(2), 0);
+        Check.due("it is as a new one: WRITTEN", other.look(3), 0);
+        Check.due("it is as a new one: fault", other.look(4), 0);
     }
 
     private static byte[] many() {
