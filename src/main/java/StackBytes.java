@@ -25,6 +25,10 @@ public final class StackBytes {
 
     private static final int FUNCTION_STEP = 512;
 
+    // Integer's own names for these do not stand in the language's rule 4.
+    private static final int LEAST_INT = 1 << 31;
+    private static final int GREATEST_INT = ~LEAST_INT;
+
     // Types have the numbers that RESULT has for them; ANY is what a take of either type asks for.
     private static final int ANY = 0;
     private static final int INT = 1;
@@ -62,7 +66,6 @@ public final class StackBytes {
     private final ByteRow bytes;
     private final ByteRow written;
     private final Fault latest;
-    private final Reader reader;
     private final Verifier verifier;
     private Program program;
     // What is read goes here first, so that a fault leaves the PROGRAM as it is.
@@ -72,8 +75,7 @@ public final class StackBytes {
         bytes = new ByteRow(MOST_BYTES);
         written = new ByteRow(MOST_WRITTEN);
         latest = new Fault();
-        reader = new Reader(bytes, latest);
-        verifier = new Verifier(latest);
+        verifier = new Verifier();
         program = new Program();
         spare = new Program();
     }
@@ -92,9 +94,9 @@ public final class StackBytes {
 
     public int read() {
         latest.clear();
-        reader.readInto(spare);
+        new Reader(bytes, latest).readInto(spare);
         for (int f = 0; f < spare.count && latest.kind == 0; f++) {
-            verifier.verify(spare, f);
+            verifier.verify(spare, f, latest);
         }
         if (latest.kind == 0) {
             Program old = program;
@@ -126,7 +128,7 @@ public final class StackBytes {
         changed.ops[i] = op;
         changed.behinds[i] = behind;
         // The other FUNCTIONS see only PARAMS and RESULT of this one, which stay: they are VERIFIED as before.
-        verifier.verify(program, function);
+        verifier.verify(program, function, latest);
         if (latest.kind != 0) {
             changed.ops[i] = oldOp;
             changed.behinds[i] = oldBehind;
@@ -344,14 +346,14 @@ public final class StackBytes {
         }
 
         static int leastBehind(int op) {
-            return op == PUSH ? Integer.MIN_VALUE : 0;
+            return op == PUSH ? LEAST_INT : 0;
         }
 
         /** The greatest number behind op in a FUNCTION; NONE if no number can be there. */
         static int mostBehind(int op, Function function, int functions) {
             switch (op) {
                 case PUSH:
-                    return Integer.MAX_VALUE;
+                    return GREATEST_INT;
                 case LOAD:
                 case STORE:
                     return function.locals - 1;
@@ -517,7 +519,7 @@ public final class StackBytes {
         }
     }
 
-    /** Reads bytes into a PROGRAM; behind a fault it only comes to its end, with numbers that keep to the limits. */
+    /** Reads bytes once, into a PROGRAM; behind a fault it only comes to its end, with numbers within the limits. */
     private static final class Reader {
         final ByteRow in;
         final Fault fault;
@@ -530,7 +532,6 @@ public final class StackBytes {
         }
 
         void readInto(Program program) {
-            at = 0;
             start(FIRST_BYTE);
             start(SECOND_BYTE);
             start(THIRD_BYTE);
@@ -577,7 +578,7 @@ public final class StackBytes {
                 handler.to = number(2, handler.from + 1, function.count);
                 handler.target = number(2, 0, function.count - 1);
                 handler.forAny = number(1, 0, 1) == 0;
-                handler.code = number(handler.forAny ? 0 : 4, Integer.MIN_VALUE, Integer.MAX_VALUE);
+                handler.code = number(handler.forAny ? 0 : 4, LEAST_INT, GREATEST_INT);
             }
         }
 
@@ -607,30 +608,28 @@ public final class StackBytes {
 
     /** Verifies a FUNCTION; what it finds goes into that FUNCTION only when there is no fault. */
     private static final class Verifier {
-        final Fault fault;
         final int[] depths = new int[MOST_INSTRUCTIONS];
         final int[] rowsOnStack = new int[MOST_INSTRUCTIONS];
         final boolean[] waits = new boolean[MOST_INSTRUCTIONS];
         // None that waits has a number below this one.
         int leastWaiting;
+        // What it works on is told anew for each FUNCTION.
         Program program;
         Function function;
+        Fault fault;
         int firstPlace;
         int current;
         int depth;
         int rows;
 
-        Verifier(Fault fault) {
-            this.fault = fault;
-        }
-
-        void verify(Program newProgram, int f) {
+        void verify(Program newProgram, int f, Fault newFault) {
             Function found = newProgram.at(f);
             if (found == null) {
                 return;
             }
             program = newProgram;
             function = found;
+            fault = newFault;
             firstPlace = f * FUNCTION_STEP;
             begin();
             // Each one waits at most once, so that as many turns as there are INSTRUCTIONS are enough.

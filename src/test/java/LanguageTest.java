@@ -2,10 +2,13 @@ import com.sun.source.tree.AssertTree;
 import com.sun.source.tree.ClassTree;
 import com.sun.source.tree.CompilationUnitTree;
 import com.sun.source.tree.DoWhileLoopTree;
+import com.sun.source.tree.ExpressionTree;
 import com.sun.source.tree.ForLoopTree;
+import com.sun.source.tree.IdentifierTree;
 import com.sun.source.tree.LambdaExpressionTree;
 import com.sun.source.tree.LiteralTree;
 import com.sun.source.tree.MemberReferenceTree;
+import com.sun.source.tree.MemberSelectTree;
 import com.sun.source.tree.MethodInvocationTree;
 import com.sun.source.tree.MethodTree;
 import com.sun.source.tree.NewClassTree;
@@ -17,6 +20,7 @@ import com.sun.source.tree.TypeCastTree;
 import com.sun.source.tree.VariableTree;
 import com.sun.source.tree.WhileLoopTree;
 import com.sun.source.util.JavacTask;
+import com.sun.source.util.TreePath;
 import com.sun.source.util.TreePathScanner;
 import com.sun.source.util.Trees;
 import java.io.IOException;
@@ -150,16 +154,47 @@ public final class LanguageTest {
         }
 
         @Override
+        public Void visitMemberSelect(MemberSelectTree tree, Void none) {
+            Element selected = element();
+            if (selected.getKind() == ElementKind.FIELD) {
+                String owner = ((TypeElement) selected.getEnclosingElement()).getQualifiedName().toString();
+                // An array's length is a field of a class that javac calls Array.
+                boolean isOwn = owner.startsWith("StackBytes") || owner.equals("Array");
+                Check.due("rule 4: " + tree + " is the class's own", isOwn, true);
+            }
+            return super.visitMemberSelect(tree, none);
+        }
+
+        @Override
         public Void visitMethodInvocation(MethodInvocationTree tree, Void none) {
             called(element());
+            givesNothingAway(tree.getArguments());
             return super.visitMethodInvocation(tree, none);
         }
 
         @Override
         public Void visitNewClass(NewClassTree tree, Void none) {
             called(element());
+            givesNothingAway(tree.getArguments());
             Check.due("rule 2: no anonymous class", tree.getClassBody() == null, true);
             return super.visitNewClass(tree, none);
+        }
+
+        private void givesNothingAway(List<? extends ExpressionTree> arguments) {
+            if (method == null || method.getKind() != ElementKind.CONSTRUCTOR) {
+                return;
+            }
+            for (ExpressionTree argument : arguments) {
+                Check.due("rule 12: " + argument + " is no part of a new object", isPart(argument), false);
+            }
+        }
+
+        /** The object itself, or an object or array that one of its fields holds. */
+        private boolean isPart(ExpressionTree argument) {
+            Element named = trees.getElement(new TreePath(getCurrentPath(), argument));
+            boolean isSelf = argument instanceof IdentifierTree name && name.getName().contentEquals("this");
+            return isSelf || named != null && named.getKind() == ElementKind.FIELD
+                && !named.asType().getKind().isPrimitive();
         }
 
         private void called(Element target) {
